@@ -21,7 +21,7 @@ public final class AnnCups {
 
     private static final int STANDS = 6, THROWN = 7;
     private static final int IDLED = 0, MADE = 1, CHANGED = 2, TOSSED = 3;
-    private static final int LEAST_SUM = 0, LEAST_LATEST = 1, FEWEST_WRONG = 2, JUST_SO_WRONG = 3;
+    private static final int LEAST_SUM = 0, LEAST_LATEST = 1, FEWEST_WRONG = 2;
 
     private static final long LOTS_TIMES = 48271L, LOTS_MODULUS = 2147483647L;
 
@@ -31,9 +31,9 @@ public final class AnnCups {
     /** What a TEXT says goes here first, so that a FAULT leaves the BAR as it is. */
     private final Cups draft = new Cups();
     private final Counter now = new Counter(cups);
-    /** All that is only thought of happens here, so that what truly is stays as it is. */
+    /** What is only thought of happens here, so that what truly is stays as it is. */
     private final Counter trial = new Counter(cups);
-    private final Search search = new Search(trial);
+    private final Search search = new Search(cups);
     private final Deeds deeds = new Deeds();
     private final Deeds[] kept = new Deeds[KEPT];
     private final int[] foundTimes = new int[SIZE + 1];
@@ -321,15 +321,15 @@ public final class AnnCups {
     // ---- 3 in which order
 
     public int least(int r) {
-        return bestOrder(r, LEAST_SUM, 0);
+        return bestOrder(r, LEAST_SUM);
     }
 
     public int latest(int r) {
-        return bestOrder(r, LEAST_LATEST, now.time);
+        return bestOrder(r, LEAST_LATEST);
     }
 
     public int fewest(int r) {
-        return bestOrder(r, FEWEST_WRONG, 0);
+        return bestOrder(r, FEWEST_WRONG);
     }
 
     public int orders(int n) {
@@ -339,9 +339,7 @@ public final class AnnCups {
         if (cups.size == 0) {
             return STATE;
         }
-        trial.become(now);
-        search.tryAll(JUST_SO_WRONG, n, 0);
-        tellParts(search.hits, 1);
+        tellParts(search.howManyWith(now, n), 1);
         return 1;
     }
 
@@ -383,8 +381,7 @@ public final class AnnCups {
         if (now.time > time) {
             return SPENT;
         }
-        trial.become(now);
-        search.tryMost(time);
+        search.findMost(now, time);
         search.layBest(row);
         return search.bestSize;
     }
@@ -466,7 +463,7 @@ public final class AnnCups {
     }
 
     public int reach(int i) {
-        return cups.has(i) ? now.taker(i) : BAD;
+        return cups.has(i) ? cups.taker(i, now.had) : BAD;
     }
 
     // ---- 6 from who held what
@@ -687,6 +684,11 @@ public final class AnnCups {
         return set == 0 ? NONE : Integer.bitCount((set & -set) - 1);
     }
 
+    /** The set of one number alone, or of none. */
+    private static int setOf(int number) {
+        return number == NONE ? 0 : 1 << number;
+    }
+
     private static boolean isOf(int kind, int wanted) {
         switch (wanted) {
             case CUP: return true;
@@ -714,9 +716,9 @@ public final class AnnCups {
         return Math.max(1, seconds - 2);
     }
 
-    // ---- a BAR's small language: each of these answers the place up to which a TEXT goes on as it should
+    // ---- a BAR's small language
 
-    /** The FAULT of a TEXT (NONE: there is none); what it says comes to the CUPS as far as it goes. */
+    /** The FAULT of a TEXT (NONE: there is none): the end is a sign that fits nowhere, so its place needs no care. */
     private static int readBar(Text text, Cups into) {
         into.size = 0;
         int at = afterBlanks(text, 0);
@@ -787,7 +789,7 @@ public final class AnnCups {
     private int ofCup(int i, int what) {
         switch (what) {
             case 0: return cups.kind[i];
-            case 1: return now.timeToMake(i);
+            case 1: return cups.timeBehind(i, now.last);
             case 2: return cups.milk[i];
             case 3: return cups.name[i];
             case 4: return cups.written[i];
@@ -846,9 +848,10 @@ public final class AnnCups {
     }
 
     private int othersThatTakeLonger(int i) {
+        int own = cups.timeBehind(i, now.last);
         int many = 0;
         for (int j = 0; j < cups.size; j++) {
-            many += j != i && !now.isMade(j) && now.timeToMake(j) > now.timeToMake(i) ? 1 : 0;
+            many += j != i && !now.isMade(j) && cups.timeBehind(j, now.last) > own ? 1 : 0;
         }
         return many;
     }
@@ -875,7 +878,7 @@ public final class AnnCups {
 
     // ---- orders, rings, ears, turns, chances
 
-    private int bestOrder(int r, int goal, int start) {
+    private int bestOrder(int r, int goal) {
         Row row = rowOf(r);
         if (row == null) {
             return BAD;
@@ -883,8 +886,7 @@ public final class AnnCups {
         if (cups.size == 0) {
             return STATE;
         }
-        trial.become(now);
-        search.tryAll(goal, 0, start);
+        search.findBest(now, goal);
         search.layBest(row);
         return search.bestValue;
     }
@@ -928,7 +930,7 @@ public final class AnnCups {
             if (who != row.places[k + 1]) {
                 return false;
             }
-            had |= who == NONE ? 0 : 1 << who;
+            had |= setOf(who);
         }
         return true;
     }
@@ -937,7 +939,7 @@ public final class AnnCups {
         if (turns <= 0) {
             return counter.howManyWrong();
         }
-        if (counter.toMake() == 0) {
+        if (counter.made == counter.cups.everyOne()) {
             return wagTurn(counter, turns);
         }
         int few = MOST_CUPS + 1;
@@ -969,15 +971,17 @@ public final class AnnCups {
     }
 
     private int wrongWithout(int gone) {
-        trial.become(now);
         // who went takes as little as who has had something
-        trial.had |= gone;
+        int had = now.had | gone;
+        int many = now.howManyWrong();
         for (int i = 0; i < cups.size; i++) {
-            if (!trial.isMade(i)) {
-                trial.serve(i);
+            if (!now.isMade(i)) {
+                int who = cups.taker(i, had);
+                had |= setOf(who);
+                many += who != NONE && who != i ? 1 : 0;
             }
         }
-        return trial.howManyWrong();
+        return many;
     }
 
     /** A ROW of ints, with room for the longest, so that none is made later. */
@@ -1056,8 +1060,8 @@ public final class AnnCups {
         final int[] milk = new int[MOST_CUPS];
         final int[] name = new int[MOST_CUPS];
         final int[] written = new int[MOST_CUPS];
-        // what follows is kept since each of the many orders that are tried asks for it
-        /** PEOPLE (bits) there whose NAME is ALIKE the one WRITTEN. */
+        // heard (PEOPLE there whose NAME is ALIKE the one WRITTEN) and both times follow from what was read;
+        // they are kept, since each of the many orders that are tried asks for them
         final int[] heard = new int[MOST_CUPS];
         final int[] timeAlone = new int[MOST_CUPS];
         final int[] timeBehindMilk = new int[MOST_CUPS];
@@ -1068,6 +1072,21 @@ public final class AnnCups {
 
         boolean isThere(int p) {
             return (there & 1 << p) != 0;
+        }
+
+        /** All CUPS (bits); as many PEOPLE. */
+        int everyOne() {
+            return (1 << size) - 1;
+        }
+
+        int timeBehind(int i, int ahead) {
+            boolean milkAhead = has(ahead) && milk[ahead] == milk[i];
+            return milkAhead ? timeBehindMilk[i] : timeAlone[i];
+        }
+
+        /** Who takes a CUP that is CALLED, if these (bits) have HAD something. */
+        int taker(int i, int had) {
+            return firstOf(heard[i] & ~had);
         }
 
         int whoHears(int called, int ears) {
@@ -1088,7 +1107,6 @@ public final class AnnCups {
             return many;
         }
 
-        /** What follows from what was read. */
         void settle() {
             there = 0;
             for (int p = 0; p < size; p++) {
@@ -1120,7 +1138,7 @@ public final class AnnCups {
         final Cups cups;
         int time;
         /** The CUP made last, NONE if none is. */
-        int last = NONE;
+        int last;
         /** CUPS (bits) that are made. */
         int made;
         /** PEOPLE (bits) who have HAD something. */
@@ -1130,8 +1148,7 @@ public final class AnnCups {
 
         Counter(Cups cups) {
             this.cups = cups;
-            Arrays.fill(place, NONE);
-            Arrays.fill(hand, NONE);
+            openAnew();
         }
 
         void openAnew() {
@@ -1158,22 +1175,9 @@ public final class AnnCups {
             return (made & 1 << i) != 0;
         }
 
-        int toMake() {
-            return cups.size - Integer.bitCount(made);
-        }
-
-        int timeToMake(int i) {
-            boolean milkAhead = cups.has(last) && cups.milk[last] == cups.milk[i];
-            return milkAhead ? cups.timeBehindMilk[i] : cups.timeAlone[i];
-        }
-
-        int taker(int i) {
-            return firstOf(cups.heard[i] & ~had);
-        }
-
         void serve(int i) {
-            int who = taker(i);
-            time += timeToMake(i);
+            int who = cups.taker(i, had);
+            time += cups.timeBehind(i, last);
             last = i;
             made |= 1 << i;
             if (cups.has(who)) {
@@ -1277,35 +1281,47 @@ public final class AnnCups {
         }
     }
 
-    /** Orders of the CUPS that are not made, tried on a counter, lesser numbers ahead; the first best one stays. */
+    /**
+     * Orders of the CUPS that are not made, tried lesser numbers ahead, so that the first of the best ones stays.
+     * What goes on along an order is handed down as numbers: nothing has to be taken back.
+     */
     private static final class Search {
-        final Counter counter;
+        final Cups cups;
         final int[] path = new int[MOST_CUPS];
         final int[] best = new int[MOST_CUPS];
         int bestSize;
         int bestValue;
-        int hits;
-        private int goal;
-        private int wanted;
-        private int limit;
+        private boolean sums;
+        /** What is above this is of no use any more. */
+        private int ceiling;
+        private int hits;
 
-        Search(Counter counter) {
-            this.counter = counter;
+        Search(Cups cups) {
+            this.cups = cups;
         }
 
-        void tryAll(int aim, int wrongWanted, int start) {
-            goal = aim;
-            wanted = wrongWanted;
+        void findBest(Counter now, int goal) {
+            bestSize = 0;
+            bestValue = 0;
+            ceiling = Integer.MAX_VALUE;
+            sums = goal == LEAST_SUM;
+            if (goal == FEWEST_WRONG) {
+                tryByWrong(this, 0, now.made, now.had, now.howManyWrong());
+            } else {
+                tryByTime(this, 0, now.made, now.time, now.last, sums ? 0 : now.time);
+            }
+        }
+
+        int howManyWith(Counter now, int wrongOnes) {
             hits = 0;
-            bestSize = 0;
-            bestValue = Integer.MAX_VALUE;
-            walk(this, 0, start);
+            countByWrong(this, 0, now.made, now.had, wrongOnes - now.howManyWrong());
+            return hits;
         }
 
-        void tryMost(int latestTime) {
-            limit = latestTime;
+        void findMost(Counter now, int latestTime) {
             bestSize = 0;
-            fill(this, 0);
+            ceiling = latestTime;
+            tryForMost(this, 0, now.made, now.time, now.last);
         }
 
         void layBest(Row row) {
@@ -1315,74 +1331,94 @@ public final class AnnCups {
             }
         }
 
-        private static void walk(Search s, int depth, int value) {
-            // values never shrink on the way: what is no better now is no better at the end
-            if (s.goal != JUST_SO_WRONG && value >= s.bestValue) {
-                return;
-            }
-            Counter counter = s.counter;
-            if (depth >= MOST_CUPS || counter.toMake() == 0) {
-                s.arrive(depth, value);
-                return;
-            }
-            for (int i = 0; i < counter.cups.size; i++) {
-                if (!counter.isMade(i)) {
-                    int time = counter.time;
-                    int last = counter.last;
-                    int had = counter.had;
-                    counter.serve(i);
-                    s.path[depth] = i;
-                    walk(s, depth + 1, s.valueBehind(i, value));
-                    counter.unserve(i, time, last, had);
-                }
-            }
-        }
-
-        private int valueBehind(int i, int value) {
-            boolean waitedFor = counter.cups.kind[i] != GHOST;
-            switch (goal) {
-                case LEAST_SUM: return waitedFor ? value + counter.time : value;
-                case LEAST_LATEST: return waitedFor ? counter.time : value;
-                default: return value;
-            }
-        }
-
-        private void arrive(int depth, int value) {
-            boolean byWrong = goal == FEWEST_WRONG || goal == JUST_SO_WRONG;
-            int worth = byWrong ? counter.howManyWrong() : value;
-            if (goal == JUST_SO_WRONG) {
-                hits += worth == wanted ? 1 : 0;
-            } else if (worth < bestValue) {
-                bestValue = worth;
-                rememberPath(depth);
-            }
-        }
-
-        private static void fill(Search s, int depth) {
-            if (depth > s.bestSize) {
-                s.rememberPath(depth);
-            }
-            if (depth >= MOST_CUPS) {
-                return;
-            }
-            Counter counter = s.counter;
-            for (int i = 0; i < counter.cups.size; i++) {
-                if (!counter.isMade(i) && counter.time + counter.timeToMake(i) <= s.limit) {
-                    int time = counter.time;
-                    int last = counter.last;
-                    int had = counter.had;
-                    counter.serve(i);
-                    s.path[depth] = i;
-                    fill(s, depth + 1);
-                    counter.unserve(i, time, last, had);
-                }
-            }
+        private boolean isWhole(int depth, int made) {
+            return depth >= MOST_CUPS || made == cups.everyOne();
         }
 
         private void rememberPath(int depth) {
             bestSize = depth;
             for (int k = 0; k < depth; k++) {
                 best[k] = path[k];
+            }
+        }
+
+        /** From now on only what is less than this will do. */
+        private void improve(int depth, int value) {
+            bestValue = value;
+            ceiling = value - 1;
+            rememberPath(depth);
+        }
+
+        private static void tryByTime(Search s, int depth, int made, int time, int last, int value) {
+            // values never shrink on the way: what is too much now is too much at the end
+            if (value > s.ceiling) {
+                return;
+            }
+            if (s.isWhole(depth, made)) {
+                s.improve(depth, value);
+                return;
+            }
+            for (int i = 0; i < s.cups.size; i++) {
+                if ((made & 1 << i) == 0) {
+                    int then = time + s.cups.timeBehind(i, last);
+                    int worth = s.sums ? value + then : then;
+                    s.path[depth] = i;
+                    tryByTime(s, depth + 1, made | 1 << i, then, i, s.cups.isThere(i) ? worth : value);
+                }
+            }
+        }
+
+        private static void tryByWrong(Search s, int depth, int made, int had, int wrongOnes) {
+            if (wrongOnes > s.ceiling) {
+                return;
+            }
+            if (s.isWhole(depth, made)) {
+                s.improve(depth, wrongOnes);
+                return;
+            }
+            for (int i = 0; i < s.cups.size; i++) {
+                if ((made & 1 << i) == 0) {
+                    int who = s.cups.taker(i, had);
+                    int more = who != NONE && who != i ? 1 : 0;
+                    s.path[depth] = i;
+                    tryByWrong(s, depth + 1, made | 1 << i, had | setOf(who), wrongOnes + more);
+                }
+            }
+        }
+
+        /** Counts the orders by which just so many more go wrong. */
+        private static void countByWrong(Search s, int depth, int made, int had, int moreWrong) {
+            if (moreWrong < 0) {
+                return;
+            }
+            if (s.isWhole(depth, made)) {
+                s.hits += moreWrong == 0 ? 1 : 0;
+                return;
+            }
+            for (int i = 0; i < s.cups.size; i++) {
+                if ((made & 1 << i) == 0) {
+                    int who = s.cups.taker(i, had);
+                    int more = who != NONE && who != i ? 1 : 0;
+                    countByWrong(s, depth + 1, made | 1 << i, had | setOf(who), moreWrong - more);
+                }
+            }
+        }
+
+        private static void tryForMost(Search s, int depth, int made, int time, int last) {
+            if (time > s.ceiling) {
+                return;
+            }
+            if (depth > s.bestSize) {
+                s.rememberPath(depth);
+            }
+            if (s.isWhole(depth, made)) {
+                return;
+            }
+            for (int i = 0; i < s.cups.size; i++) {
+                if ((made & 1 << i) == 0) {
+                    s.path[depth] = i;
+                    tryForMost(s, depth + 1, made | 1 << i, time + s.cups.timeBehind(i, last), i);
+                }
             }
         }
     }

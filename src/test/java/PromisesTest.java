@@ -191,6 +191,9 @@ public final class PromisesTest {
         due("4: at(6, 0)", x.at(6, 0), BAD);
         due("4: at(-1, 0)", x.at(-1, 0), BAD);
         due("4: asked() behind refusals", x.asked(), 4);
+        x.row(3, 0);
+        dueFinding("3: an empty ROW is there", x, x.lay(3, 0, 1), BEYOND);
+        dueFinding("4: an empty ROW is there", x, x.at(3, 0), BEYOND);
     }
 
     private static void tear() {
@@ -230,6 +233,10 @@ public final class PromisesTest {
         due("6: BAD from", x.copy(6, 0, 0, 0, -1), BAD);
         due("6: BAD to", x.copy(0, 0, -1, 0, -1), BAD);
         due("6: the other behind refusals", show(x, 1), "0 4 5");
+        x.row(3, 0);
+        due("6: none to an empty one", x.copy(0, 0, 3, 0, 0), 1);
+        due("6: none from an empty one", x.copy(3, 0, 0, 0, 0), 1);
+        dueFinding("6: one from an empty one", x, x.copy(3, 0, 0, 0, 1), BEYOND);
     }
 
     private static void mean() {
@@ -280,6 +287,8 @@ public final class PromisesTest {
         }
         due("9: put(4, 0, 1)", x.put(4, 0, 1), BAD);
         due("9: put(-1, 0, 1)", x.put(-1, 0, 1), BAD);
+        x.text(1, 0);
+        dueFinding("9: an empty TEXT is there", x, x.put(1, 0, 1), BEYOND);
     }
 
     private static void dueFault(String s, int want) {
@@ -361,6 +370,12 @@ public final class PromisesTest {
         due("11: kept BARS", x.count(11), 0);
         due("11: hands", x.holds(0), NONE);
         due("11: the same again", x.bar(1), 3);
+        x.keep(0);
+        write(x, 3, "e0g1000c1010");
+        due("11: another one", x.bar(3), 2);
+        due("11: kept BARS", x.count(11), 0);
+        due("11: other ones are there", x.whose(0), 0);
+        due("11: nobody takes it", x.make(1), NONE);
     }
 
     private static void cup() {
@@ -415,6 +430,8 @@ public final class PromisesTest {
         due("12: hands that change make nothing", told(x, 3, 1), 3);
         x.undo(2);
         due("12: undone, another milk is ahead", told(x, 3, 1), 6);
+        x.undo(0);
+        due("12: undone, none is ahead", told(x, 3, 1), 6);
     }
 
     private static void mark() {
@@ -443,6 +460,9 @@ public final class PromisesTest {
         due("13: KIND -1", x.mark(0, -1), BAD);
         due("13: CUP 6", x.mark(6, 1), BAD);
         due("13: CUP -1", x.mark(-1, 1), BAD);
+        x = withBar("e0c9100j2111t1122");
+        due("13: CUP 0 has its milk", x.mark(1, 1), 2);
+        due("13: CUP 0 takes longer", x.mark(2, 2), 2);
     }
 
     private static void holds() {
@@ -503,6 +523,8 @@ public final class PromisesTest {
         due("16: change(3, 0)", x.change(3, 0), BAD);
         due("16: change(0, -1)", x.change(0, -1), BAD);
         due("16: the same", x.change(2, 2), BAD);
+        due("16: change(32, 1)", x.change(32, 1), BAD);
+        due("16: change(1, 32)", x.change(1, 32), BAD);
         x = withBar(ALL);
         due("16: one who is not there, ahead of STATE", x.change(0, 3), BAD);
         due("16: one who is not there", x.change(3, 0), BAD);
@@ -590,6 +612,14 @@ public final class PromisesTest {
         due("19: keep(2) again", x.keep(2), 3);
         x.undo(0);
         due("20: the later one", x.on(2), 3);
+        x.undo(0);
+        x.make(2);
+        x.make(1);
+        x.change(0, 2);
+        x.change(1, 2);
+        due("20: other DEEDS go", x.on(2), 3);
+        due("20: the kept ones come", told(x, 0, 5), 0);
+        due("20: and no others", x.count(3), 5);
         x.bar(0);
         dueFinding("20: behind a new BAR", x, x.on(2), NOTHING);
     }
@@ -669,11 +699,18 @@ public final class PromisesTest {
         duePart("24: none", x, x.orders(0), 0, 1);
         x = withBar(RING);
         duePart("24: a ring", x, x.orders(3), 6, 1);
+        due("23: all the same", x.fewest(3), 3);
+        due("23: the first order", show(x, 3), "0 1 2");
+        x = withBar(TWO_ANNS);
+        x.make(0);
+        duePart("24: from now on", x, x.orders(0), 0, 1);
         x = withBar(ALL);
         duePart("24: half of all", x, x.orders(1), 360, 1);
+        x = withBar("e0c1001c1010c1023c1032c1044c1055");
+        duePart("24: all six made", x, x.orders(4), 720, 1);
         due("24: orders(7)", x.orders(7), BAD);
         due("24: orders(-1)", x.orders(-1), BAD);
-        due("24: upper() behind refusals", x.upper(), 360);
+        due("24: upper() behind refusals", x.upper(), 720);
         due("24: no CUPS", new AnnCups().orders(0), STATE);
         due("24: BAD ahead of STATE", new AnnCups().orders(7), BAD);
         due("23: fewest(6)", x.fewest(6), BAD);
@@ -702,11 +739,17 @@ public final class PromisesTest {
         lay(x, 0, 9, 9, 9, 9, 9, 9, 9);
         dueFinding("25: SIZE ahead of UNLIKE", x, x.makes(0), SIZE);
         dueFinding("25: NOTHING", x, x.makes(1), NOTHING);
+        due("25: asked() behind FINDINGS", x.asked(), 0);
         due("25: asked() behind refusals", x.asked(), 0);
         due("25: makes(6)", x.makes(6), BAD);
         due("25: makes(-1)", x.makes(-1), BAD);
         due("25: STATE ahead of NOTHING", new AnnCups().makes(0), STATE);
         due("25: BAD ahead of STATE", new AnnCups().makes(6), BAD);
+        x = lay(withBar(ALL), 0, 0, 1, 2, 3, 4, 5);
+        dueAsked("25: six", x, x.makes(0), 26, 1);
+        x.make(3);
+        lay(x, 0, 1);
+        dueAsked("25: behind its milk", x, x.makes(0), 6, 2);
     }
 
     private static void done() {
@@ -769,6 +812,9 @@ public final class PromisesTest {
         due("15: a ghost's CUP", x.make(1), 0);
         due("27: who holds a ghost's", x.wrong(), 1);
         due("28: by none", x.mends(), NONE);
+        x = withBar("e0c1005c1000");
+        x.make(1);
+        due("28: a line, the lesser first", x.mends(), 1);
     }
 
     private static void runs() {
@@ -851,6 +897,8 @@ public final class PromisesTest {
         dueAsked("32: fewest", x, x.give(), 9, 1);
         x = withBar("e0c1090c1080");
         dueAsked("32: the first", x, x.give(), 0, 0);
+        x = withBar("e9c1000c1010c1020c1030c1040c1050");
+        dueAsked("32: of six", x, x.give(), 0, 6);
     }
 
     private static void ears() {
@@ -894,6 +942,8 @@ public final class PromisesTest {
         x = withBar(ALL);
         lay(x, 0, 0, 0, 1, NONE, 2, NONE, 3, 4, 4, NONE, 5, NONE);
         due("34: six pairs", x.ears(0), 1);
+        x = lay(withBar("e0c1005c1000"), 0, 0, NONE, 1, 0);
+        due("34: nobody, then the first", x.ears(0), 31);
     }
 
     private static void kinds() {
@@ -934,6 +984,19 @@ public final class PromisesTest {
         due("36: the bar wants few, twice", x.wag(2), 0);
         x.make(0);
         due("36: two must hold something", x.wag(1), 1);
+        x = withBar(THREE);
+        x.make(0);
+        x.make(1);
+        x.make(2);
+        due("36: two of three", x.wag(1), 2);
+        due("36: three of three", x.wag(2), 3);
+        x = withBar("e0c1001c1012c1023c1034c1045c1050");
+        for (int i = 0; i < 5; i++) {
+            x.make(i);
+        }
+        due("36: all six", x.wag(1), 6);
+        x = withBar("e0c1005c1019c1059");
+        due("36: what the bar only thought of is held by nobody", x.wag(1), 0);
         due("36: wag(3)", x.wag(3), BAD);
         due("36: wag(-1)", x.wag(-1), BAD);
         due("36: no CUPS", new AnnCups().wag(0), STATE);
@@ -1101,6 +1164,10 @@ public final class PromisesTest {
         }
         due("43: count(12)", x.count(12), BAD);
         due("43: count(-1)", x.count(-1), BAD);
+        x = withBar("e3j1000f1000d1000t1000d1000c1000");
+        due("43: JUGS", x.count(6), 2);
+        due("43: TEAS", x.count(7), 3);
+        due("43: EARS", x.count(5), 3);
     }
 
     private static void findings() {
