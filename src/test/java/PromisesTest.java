@@ -622,6 +622,10 @@ public final class PromisesTest {
         due("20: and no others", x.count(3), 5);
         x.bar(0);
         dueFinding("20: behind a new BAR", x, x.on(2), NOTHING);
+        x = full();
+        due("19: forty DEEDS", x.keep(1), 40);
+        x.undo(0);
+        due("20: forty DEEDS", x.on(1), 40);
     }
 
     private static void least() {
@@ -815,6 +819,12 @@ public final class PromisesTest {
         x = withBar("e0c1005c1000");
         x.make(1);
         due("28: a line, the lesser first", x.mends(), 1);
+        x = withBar("e0c1001c1012c1023c1034c1045c1050");
+        for (int i = 0; i < 6; i++) {
+            x.make(i);
+        }
+        due("28: a ring of six", x.mends(), 5);
+        dueAsked("29: a ring of six", x, x.runs(0), 5, 2);
     }
 
     private static void runs() {
