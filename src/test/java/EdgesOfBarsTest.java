@@ -21,6 +21,7 @@ public final class EdgesOfBarsTest {
         kinds();
         alikeNames();
         ghosts();
+        people();
         cup();
         cupRefused();
         markOfJugs();
@@ -217,6 +218,12 @@ public final class EdgesOfBarsTest {
         long before = x.least(3);
         x.text(0, 0);
         Edges.due("the TEXT goes, the BAR stays", x.least(3), before);
+        x = Edges.write(Edges.busy(), 0, "e0g1000c1010g1000");
+        Edges.due("other PEOPLE are there", x.bar(0), 3);
+        Edges.due("not who was there ahead of it", x.whose(0), 0);
+        Edges.due("nobody takes CUP 0", x.make(0), NONE);
+        Edges.due("who is there now", Edges.write(x, 0, "e0c1000c1010c1000").bar(0), 3);
+        Edges.due("0 and 2 are", x.whose(0), 1 + 4);
     }
 
     private static void barRefused() {
@@ -364,6 +371,20 @@ public final class EdgesOfBarsTest {
         Edges.due("of one that is not made", Edges.of(x, 1, 1), 12);
     }
 
+    private static void people() {
+        Edges.sentence(0, "PERSON i waits for CUP i (as many PEOPLE as CUPS).");
+        for (int n = 1; n <= 6; n++) {
+            String s = "e0" + SIX.substring(0, 5 * n);
+            for (int p = 0; p < n; p++) {
+                Edges.due("PERSON " + p + " of " + n, Edges.bar(s).holds(p), NONE);
+                Edges.due("takes the own CUP", Edges.bar(s).make(p), p == 3 ? NONE : p);
+            }
+            for (int p : Edges.outside(0, n - 1)) {
+                Edges.refused("PERSON " + p + " of " + n, () -> Edges.bar(s), BAD, x -> x.holds(p));
+            }
+        }
+    }
+
     private static void cupRefused() {
         Edges.sentence(12, "told by asked(): 1. BAD.");
         for (int n = 1; n <= 6; n++) {
@@ -412,6 +433,9 @@ public final class EdgesOfBarsTest {
         x.make(3);
         Edges.due("now they take as long", x.mark(0, 2), 0);
         Edges.due("one alone", Edges.bar("e0d1000").mark(0, 2), 0);
+        x = Edges.bar("e0c9000t1011d1022");
+        Edges.due("the first CUP, too", x.mark(1, 2), 2);
+        Edges.due("the first CUP alone", x.mark(2, 2), 1);
     }
 
     private static void markOfGhosts() {

@@ -305,6 +305,9 @@ public final class EdgesOfNamesTest {
         dueWag(Edges.bar("e0c1000c1011"), 0, 0, 2);
         dueWag(Edges.make(Edges.bar("e0c1000c1011"), 0), 0, 2, 2);
         dueWag(Edges.make(Edges.bar("e0c1000c1011"), 0, 1), 0, 2, 2);
+        // the bar wants few: it calls 1 for the own CUP first, then for that of 0
+        dueWag(Edges.bar("e0c1005c1055"), 0, 0, 0);
+        dueWag(Edges.make(Edges.bar("e0c1005c1055"), 0), 1, 1, 1);
         // who holds nothing is left alone: the one CUP can't be brought to another
         dueWag(Edges.make(Edges.bar("e0c1000c1018c1028"), 0, 1, 2), 0, 0, 0);
         // both are WRONG now: nobody is changed, or twice the same
