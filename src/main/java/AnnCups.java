@@ -22,6 +22,8 @@ public final class AnnCups {
     private static final int STANDS = 6, THROWN = 7;
     private static final int IDLED = 0, MADE = 1, CHANGED = 2, TOSSED = 3;
     private static final int LEAST_SUM = 0, LEAST_LATEST = 1, FEWEST_WRONG = 2;
+    /** Far above every sum of TIMES: six CUPS, each made once and 18 at most, are done by 108. */
+    private static final int NO_CEILING = 1000000;
 
     private static final long LOTS_TIMES = 48271L, LOTS_MODULUS = 2147483647L;
 
@@ -1303,7 +1305,7 @@ public final class AnnCups {
         void findBest(Counter now, int goal) {
             bestSize = 0;
             bestValue = 0;
-            ceiling = Integer.MAX_VALUE;
+            ceiling = NO_CEILING;
             sums = goal == LEAST_SUM;
             if (goal == FEWEST_WRONG) {
                 tryByWrong(this, 0, now.made, now.had, now.howManyWrong());
